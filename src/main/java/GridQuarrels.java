@@ -17,7 +17,7 @@ public final class GridQuarrels {
 
     private static final int PLAIN = 1, THIN = 2, CALF = 3, BULL = 4, TAME = 5;
     /** By kinds: the kind that each of them is, too. Kind 0 is every quarrel. */
-    private static final int[] ABOVE = {0, 0, PLAIN, PLAIN, 0, BULL};
+    private static final int[] ABOVE = {0, 0, 1, 1, 0, 4};
 
     private final Rows rows = new Rows();
     private final Reader reader = new Reader();

@@ -4,6 +4,7 @@ public final class ActsTest {
 
     public static void main(String[] args) {
         undo();
+        allOfFiveQuarrelsIsUndone();
         onlyTheLatestCanBeUndone();
         years();
         whoGoesWhere();
@@ -49,6 +50,26 @@ public final class ActsTest {
         due.is("hay is undone", x.undo(), 0);
         due.is("hay", x.parish(0, 0), 2);
         due.is("none any more", x.undo(), Due.STATE);
+    }
+
+    private static void allOfFiveQuarrelsIsUndone() {
+        due.promise(9);
+        GridQuarrels x = Due.told("c3,1;r0,1,0;r1,2,0;p0,1,0;t1,2,0;k2,3,0;b0,4,0;m1,5,0;");
+        x.hay(1, 3);
+        x.hay(2, 9);
+        x.years(5);
+        for (int n = 0; n < 5; n++) {
+            x.undo();
+        }
+        int[] places = {0, 1, 2, 0, 1};
+        int[] hay = {1, 4, 10};
+        for (int q = 0; q < 5; q++) {
+            due.is("place of " + q, x.quarrel(q, 0), places[q]);
+            due.is("size of " + q, x.quarrel(q, 1), q + 1);
+        }
+        for (int p = 0; p < 3; p++) {
+            due.is("hay in " + p, x.parish(p, 0), hay[p]);
+        }
     }
 
     private static void onlyTheLatestCanBeUndone() {
@@ -313,6 +334,7 @@ public final class ActsTest {
         GridQuarrels x = Due.told("c4,5;r0,1,9;r2,1,4;r1,2,0;m0,1,0;p1,1,0;b1,2,0;p1,9,0;");
         due.is("hay", x.parish(1, 0), 5);
         due.is("quarrels in 1", x.parish(1, 1), 2 | 4 | 8);
+        due.is("quarrels in 0", x.parish(0, 1), 1);
         due.is("quarrels in 3", x.parish(3, 1), 0);
         due.is("roads at 1", x.parish(1, 2), 7);
         due.is("roads at 2", x.parish(2, 2), 6);

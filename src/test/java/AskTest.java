@@ -1,8 +1,8 @@
 /** Promises 38 to 41: kinds, asks, and the trace of bodies. */
 public final class AskTest {
     private static final Due due = new Due();
-    /** Quarrel q is of kind q + 1, in parish q, and 9 less q big. */
-    private static final String ALL = "c5,9;r0,1,9;p0,9,0;t1,8,0;k2,7,0;b3,6,0;m4,5,0;";
+    /** Quarrel q is of kind q + 1, and 9 less q big. */
+    private static final String ALL = "c5,9;r0,1,9;p0,9,0;t2,8,0;k2,7,0;b3,6,0;m4,5,0;";
 
     public static void main(String[] args) {
         kind();
@@ -52,7 +52,7 @@ public final class AskTest {
         due.promise(40);
         GridQuarrels x = Due.told(ALL);
         asked(x, 0, 0, 9 + (0 + 0), "11 10 21 20");
-        asked(x, 1, 0, -(8 + 2 * (1 + 1)), "12 11 10 24 21 20");
+        asked(x, 1, 0, -(8 + 2 * (1 + 2)), "12 11 10 24 21 20");
         asked(x, 2, 0, 7 + (2 + 2 - 1000), "11 10 22 21 20");
         asked(x, 3, 0, 6 - 100, "13 10");
         asked(x, 4, 0, 2 * (5 - 100), "14 13 10");
@@ -66,7 +66,7 @@ public final class AskTest {
         due.promise(40);
         GridQuarrels x = Due.told(ALL);
         asked(x, 0, 1, 0, "21 20");
-        asked(x, 1, 1, 2 * (1 + 1), "24 21 20");
+        asked(x, 1, 1, 2 * (1 + 2), "24 21 20");
         asked(x, 2, 1, 2 + 2 - 1000, "22 21 20");
         asked(x, 3, 1, 3 - (6 - 100), "23 20 13 10");
         asked(x, 4, 1, 4 - 2 * (5 - 100), "23 20 14 13 10");

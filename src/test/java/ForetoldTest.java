@@ -221,6 +221,10 @@ public final class ForetoldTest {
         due.is("for 10 years, which", x.lures(0, 1, 10, 1), 2);
         due.is("for 18 years it starves in 1", x.lures(0, 1, 18, 0), 2);
         due.is("unless it has eaten in 0", x.lures(0, 1, 18, 1), 3);
+        x = Due.told("c4,0;r0,1,0;r0,2,0;r1,3,0;r2,3,0;p0,5,0;");
+        putMuch(x, 3, 20);
+        due.is("by way of 1, or of 2", x.lures(0, 3, 2, 0), 1);
+        due.is("of several the least", x.lures(0, 3, 2, 1), 2);
         x = Due.told("c3,0;r0,2,0;r0,1,0;p0,1,0;");
         putMuch(x, 1, 95);
         putMuch(x, 2, 99);
@@ -326,6 +330,7 @@ public final class ForetoldTest {
         x.hay(0, 2);
         x.hay(1, 3);
         x.hay(2, 3);
+        due.is("one, in one year", x.fed(1, 1), 1);
         due.is("of several the first, of all", x.fed(2, 0), 0);
         due.is("two", x.fed(2, 1), 2);
         due.is("of several the first", x.fed(60, 0), 1);
@@ -358,6 +363,9 @@ public final class ForetoldTest {
         due.is("from where it would be in 0", x.who(0, 2, 0, 2, 1), 0);
         due.is("three years in 1", x.who(0, 2, 0, 3, 3), 3);
         due.is("nowhere", x.who(0, 2, 0, 0, 1), 0);
+        x.grid(0, 9);
+        due.is("from where it would stay in 1", x.who(0, 2, 0, 1, 1), 2);
+        due.is("from where it would stay in 0", x.who(0, 2, 0, 2, 1), 1);
         x = Due.told("c2,0;r0,1,0;p0,2,0;");
         Due.fill(x, 0, 0, 0, 0, 0, 0, 0, 0, 0, 0, 0, 0, 0);
         due.is("as it was, if dead", x.who(0, 1, 0, 0, 12), 1022);
@@ -487,7 +495,14 @@ public final class ForetoldTest {
         x = Due.told("c2,0;r0,1,0;p0,3,0;");
         x.hay(1, 9);
         fraction(x, 1, 17, 0, 1, 1);
+        fraction(x, 1, 17, 6, 1, 1);
         fraction(x, 1, 18, 0, 0, 1);
+        x = Due.told("c2,0;r0,1,1;p0,1,0;");
+        x.hay(1, 9);
+        fraction(x, 1, 1, 3, 3, 10);
+        x = Due.told("c2,0;r0,1,4;k0,1,0;");
+        x.hay(1, 9);
+        fraction(x, 1, 1, 8, 4, 5);
     }
 
     /** By the seed 1 X becomes 16807, 282475249, 1622650073, 984943658, 1144108930, 470211272, 101027544. */
@@ -506,7 +521,12 @@ public final class ForetoldTest {
         due.is("drawn(1, 1, 2)", x.drawn(1, 1, 2), Due.BAD);
         due.is("drawn(1, 1, -1)", x.drawn(1, 1, -1), Due.BAD);
         x = Due.told("c2,0;r0,1,9;p0,1,0;p1,1,0;");
-        due.is("2 hay come to 1 ahead of the first year", x.drawn(1, 1, 0), 1);
+        due.is("hay comes to 1 ahead of the first year", x.drawn(1, 1, 0), 1);
+        x = Due.told("c2,0;r0,1,9;p1,1,0;p1,1,0;p1,1,0;");
+        due.is("2 hay, for two", x.drawn(1, 1, 0), 2);
+        x = Due.told("c2,0;r0,1,9;k0,9,0;");
+        due.is("a calf waits", x.drawn(6, 1, 1), 0);
+        due.is("until the grid is 0", x.drawn(7, 1, 1), 1);
     }
 
     private static void nothingChanges() {
