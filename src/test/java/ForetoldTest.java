@@ -225,6 +225,9 @@ public final class ForetoldTest {
         putMuch(x, 3, 20);
         due.is("by way of 1, or of 2", x.lures(0, 3, 2, 0), 1);
         due.is("of several the least", x.lures(0, 3, 2, 1), 2);
+        x = Due.told("c7,0;r1,3,1;r3,6,2;r5,2,0;r0,4,2;r1,2,0;r6,0,2;r6,1,9;p0,9,0;");
+        x.hay(4, 4);
+        due.is("from one to the next by hay in all", x.lures(0, 5, 12, 1), 127);
         x = Due.told("c3,0;r0,2,0;r0,1,0;p0,1,0;");
         putMuch(x, 1, 95);
         putMuch(x, 2, 99);

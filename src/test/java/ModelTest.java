@@ -122,7 +122,10 @@ public final class ModelTest {
         int a = in(0, 7), b = in(0, 7), i = in(0, 4), j = in(0, 4), n = in(0, 8);
         int q = quarrel(), p = parish(), r = road(), some = in(1, 9), lane = in(0, 2), v = value();
         switch (which) {
-            case 0: return same("row(" + a + ", " + lane + ", " + n * 3 + ")", x.row(a, lane, n * 3), model.row(a, lane, n * 3));
+            case 0: {
+                int items = in(0, 40);
+                return same("row(" + a + ", " + lane + ", " + items + ")", x.row(a, lane, items), model.row(a, lane, items));
+            }
             case 1:
             case 2: return same("set(" + a + ", " + i + ", " + v + ")", x.set(a, i, v), model.set(a, i, v));
             case 3: return same("copy(" + a + ", " + i + ", " + b + ", " + j + ", " + n + ")",

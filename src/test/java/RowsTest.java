@@ -66,6 +66,14 @@ public final class RowsTest {
         due.is("which of ones", x.which(3, 0, 4), 0);
         x.row(3, 0, 4);
         due.is("which of a new row", x.which(3, 0, 4), 1);
+        Due.fill(x, 4, 1);
+        due.is("row(3, 2, 40)", x.row(3, 2, 40), 40);
+        due.is("the row behind it stays", x.which(4, 0, 1), 0);
+        due.is("row(7, 2, 40)", x.row(7, 2, 40), 40);
+        for (int n = 1; n <= 12; n++) {
+            due.is("the last items of the last row", x.which(7, 40 - n, n), 1);
+        }
+        due.is("beyond them", x.which(7, 40, 1), Due.PLACE);
     }
 
     private static void set() {
