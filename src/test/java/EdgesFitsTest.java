@@ -18,6 +18,8 @@ public final class EdgesFitsTest {
         whoBeyondARow();
         whoFindsTheFirst();
         whoOfNoneAndOfAll();
+        whoBySizesThatCross();
+        whoByWhereItBegan();
         gridsNumbers();
         gridsOfTheDead();
         gridsOfAMissingRow();
@@ -141,6 +143,46 @@ public final class EdgesFitsTest {
         }
         twins.tellsOfRow("all but the last year", rowOf(1, 0, 0, 0, 0, 0, 0, 0, 0, 0, 0, 0, 1), x -> x.who(0, 0, 0, 0, 12), 0);
         twins.tellsOfRow("so until then", rowOf(1, 0, 0, 0, 0, 0, 0, 0, 0, 0, 0, 0, 1), x -> x.who(0, 0, 0, 0, 11), 62);
+    }
+
+    /** Each size, each kind at 5, on either side of every grid. */
+    private static void whoBySizesThatCross() {
+        due.promise(31);
+        for (int grid = 0; grid <= 9; grid++) {
+            int cross = 0;
+            for (int size = grid + 1; size <= 9; size++) {
+                cross |= 1 << size;
+            }
+            int thin = 0;
+            for (int size = Math.max(1, grid - 2); size <= 9; size++) {
+                thin |= 1 << size;
+            }
+            int[] goes = {cross, thin, grid == 0 ? 1022 : 0, cross, cross};
+            for (int kind = 0; kind < 5; kind++) {
+                GridQuarrels x = Due.told("c2,0;r0,1," + grid + ";" + "ptkbm".charAt(kind) + "0,5,0;");
+                x.hay(1, 1);
+                Due.fill(x, 0, 1, 0);
+                due.is("sizes that go by " + grid, x.who(0, 1, 0, 0, 1), goes[kind]);
+                due.is("sizes that stay by " + grid, x.who(0, 1, 0, 1, 1), 1022 - goes[kind]);
+                int kinds = (grid < 5 ? 2 | 16 | 32 : 0) | (grid < 8 ? 4 : 0) | (grid == 0 ? 8 : 0);
+                due.is("kinds that go by " + grid, x.who(0, 0, 0, 0, 1), kinds);
+                due.is("kinds that stay by " + grid, x.who(0, 0, 0, 1, 1), 62 - kinds);
+            }
+        }
+    }
+
+    /** From 0 it goes to 1, where 2 lie; from 2 to 3, where 3 lie; from all others it stays. */
+    private static void whoByWhereItBegan() {
+        due.promise(31);
+        GridQuarrels x = Due.told("c7,0;r0,1,0;r3,2,0;p6,9,0;");
+        x.hay(1, 2);
+        x.hay(3, 3);
+        Due.fill(x, 0, 0, 1, 2, 3, 4, 5, 6);
+        int[] began = {0, 3, 0, 12, 16, 32, 64};
+        for (int p = 0; p < 7; p++) {
+            due.is("it began, behind a year in " + p, x.who(0, 2, 0, p, 1), began[p]);
+        }
+        due.is("it is where it was", x.quarrel(0, 0), 6);
     }
 
     private static void gridsNumbers() {
@@ -470,12 +512,15 @@ public final class EdgesFitsTest {
     /** By the seed 1 the seventh X, 101027544, is the first that 6 divides: the grid of road X by 2 = 0. */
     private static void drawnFromThenOn() {
         due.promise(35);
-        GridQuarrels x = Due.told("c3,0;r0,1,9;r1,2,9;k0,9,0;");
-        x.hay(1, 9);
+        Twins.Past calf = x -> {
+            Due.tell(x, "c3,0;r0,1,9;r1,2,9;k0,9,0;");
+            x.hay(1, 9);
+        };
         for (int n = 0; n <= 7; n++) {
-            due.is("how often, behind " + n, x.drawn(n, 1, 1), n < 7 ? 0 : 1);
+            int years = n;
+            twins.tells("how often, behind " + n, calf, x -> x.drawn(years, 1, 1), n < 7 ? 0 : 1);
         }
-        x = Due.told("c3,0;r1,2,9;r0,1,9;k0,9,0;");
+        GridQuarrels x = Due.told("c3,0;r1,2,9;r0,1,9;k0,9,0;");
         x.hay(1, 9);
         due.is("the other road is not filled", x.drawn(7, 1, 1), 0);
     }

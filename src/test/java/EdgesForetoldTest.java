@@ -495,6 +495,8 @@ public final class EdgesForetoldTest {
         due.promise(30);
         twins.tells("none eats: the first", LEAST, x -> x.fed(60, 0), 0);
         twins.tells("none eats: no time", LEAST, x -> x.fed(60, 1), 0);
+        twins.tells("the first eats most: which", leavesBehind(60), x -> x.fed(60, 0), 0);
+        twins.tells("the first eats most: how often", leavesBehind(60), x -> x.fed(60, 1), 60);
         GridQuarrels x = Due.told("c5,0;r3,4,9;b0,9,0;b1,9,0;b2,9,0;");
         put(x, 1, 60);
         put(x, 2, 61);

@@ -106,28 +106,26 @@ final class Twins {
 
     /** What is refused leaves status(), too; what is found leaves its number there. */
     void refuses(String name, Past past, Call call, long want) {
-        GridQuarrels x = made(past);
         boolean found = want <= Due.NULL && want >= Due.STORE;
-        int status = found ? (int) (-1000010 - want) : x.status();
-        due.is(name, call.on(x), want);
-        due.is("status() behind " + name, x.status(), status);
-        changesNothing(name, past, call);
+        answers(name, past, call, want, found ? (int) (-1000010 - want) : made(past).status());
     }
 
     /** What is told by a call that has no row to it, and changes nothing. */
     void tells(String name, Past past, Call call, long want) {
-        GridQuarrels x = made(past);
-        int status = x.status();
-        due.is(name, call.on(x), want);
-        due.is("status() behind " + name, x.status(), status);
-        changesNothing(name, past, call);
+        answers(name, past, call, want, made(past).status());
     }
 
     /** What is told by a call with a row, or as(): it had no finding. */
     void tellsOfRow(String name, Past past, Call call, long want) {
+        answers(name, past, call, want, 0);
+    }
+
+    /** As nothing changes, the same call has the same answer again. */
+    private void answers(String name, Past past, Call call, long want, int status) {
         GridQuarrels x = made(past);
         due.is(name, call.on(x), want);
-        due.is("status() behind " + name, x.status(), 0);
+        due.is("status() behind " + name, x.status(), status);
+        due.is(name + ", again", call.on(x), want);
         changesNothing(name, past, call);
     }
 
