@@ -355,6 +355,12 @@ public final class EdgesFitsTest {
         due.promise(34);
         fraction("no snow", CHAIN, new int[] {0, 6, 6, 0}, 0, 1);
         fraction("snow on all", CHAIN, new int[] {0, 6, 6, 10}, 1, 1);
+        Twins.Past calf = x -> {
+            Due.tell(x, "c2,0;r0,1,1;k0,9,0;");
+            x.hay(1, 1);
+        };
+        fraction("a grid that is filled is 0, which a calf crosses", calf, new int[] {0, 1, 1, 10}, 1, 1);
+        fraction("a grid of 1 is filled, too", calf, new int[] {0, 1, 1, 1}, 1, 10);
         fraction("no grid above 0", LEAST, new int[] {0, 0, 30, 5}, 1, 1);
         fraction("no grid above 0, elsewhere", LEAST, new int[] {0, 1, 30, 5}, 0, 1);
         long tens = 1;
