@@ -85,7 +85,27 @@ public final class FaceTest {
             due.that(c.getName() + " is not public", !Modifier.isPublic(c.getModifiers()));
             long fields = Arrays.stream(c.getDeclaredFields()).filter(f -> !Modifier.isStatic(f.getModifiers())).count();
             due.that(c.getName() + " has " + fields + " fields", fields <= 20);
+            membersInside(c);
         }
+    }
+
+    private static void membersInside(Class<?> c) {
+        for (Method m : c.getDeclaredMethods()) {
+            boolean onFace = Arrays.stream(METHODS).anyMatch(face -> face.contains(" " + m.getName() + "("));
+            due.that("no method inside bears the name " + m.getName(), !onFace);
+            due.that(m.getName() + " throws nothing", m.getExceptionTypes().length == 0);
+        }
+        for (Field f : c.getDeclaredFields()) {
+            due.that(f.getName() + " is final, if static", !Modifier.isStatic(f.getModifiers()) || Modifier.isFinal(f.getModifiers()));
+            due.that("a type that is allowed: " + f.getType().getName(), isAllowed(f.getType()));
+        }
+    }
+
+    /** The class uses numbers, arrays of them and classes of its own alone. */
+    private static boolean isAllowed(Class<?> type) {
+        Class<?> part = type.isArray() ? type.getComponentType() : type;
+        Class<?> item = part.isArray() ? part.getComponentType() : part;
+        return item.isPrimitive() || item.getEnclosingClass() == GridQuarrels.class;
     }
 
     private static String code() throws IOException {
